@@ -270,7 +270,7 @@ public final class LeastTeaches {
             return NONE;
         }
         sitAll(t);
-        return (now.visited ? withGuest : alone).standsUp(bench, j);
+        return searchFor(now.visited).standsUp(bench, j);
     }
 
     public int stuck(int t) {
@@ -406,7 +406,7 @@ public final class LeastTeaches {
         if (i < 0 || i >= IMAGES) {
             return UNKNOWN;
         }
-        (i == 0 ? image0 : image1).take(now);
+        imageOf(i).take(now);
         keptSet |= 1 << i;
         return 1;
     }
@@ -418,7 +418,7 @@ public final class LeastTeaches {
         if ((keptSet >> i & 1) == 0) {
             return NOT;
         }
-        now.take(i == 0 ? image0 : image1);
+        now.take(imageOf(i));
         return 1;
     }
 
@@ -452,6 +452,14 @@ public final class LeastTeaches {
         return sum;
     }
 
+    private Standing imageOf(int i) {
+        return i == 0 ? image0 : image1;
+    }
+
+    private Search searchFor(boolean visited) {
+        return visited ? withGuest : alone;
+    }
+
     private void sitAll(int t) {
         bench.sit(told, now, ALL, t);
     }
@@ -459,7 +467,7 @@ public final class LeastTeaches {
     private int fewestOfAll(Standing from, int t, boolean visited) {
         bench.sit(told, from, ALL, t);
         bench.visited = visited;
-        return bench.isBarred() ? NONE : (visited ? withGuest : alone).lessonsFrom(bench);
+        return bench.isBarred() ? NONE : searchFor(visited).lessonsFrom(bench);
     }
 
     private int fewestOfPart(int set, int t) {
@@ -1121,7 +1129,10 @@ public final class LeastTeaches {
         }
     }
 
-    /** FEWEST for LEVELS of one THING, kept by their code once found: they are the same for all THINGS. */
+    /**
+     * FEWEST by the code of LEVELS, kept once found. While nobody is barred it hangs on these, on the PUPILS
+     * and on the GUEST alone: so one Search serves all THINGS, and is asked either always or never with a GUEST.
+     */
     private static final class Search {
         private static final int UNSEEN = -2;
         private final int[] far = new int[TENS[SEARCHED]];
@@ -1131,7 +1142,6 @@ public final class LeastTeaches {
             ofSet = NONE;
         }
 
-        /** FEWEST for those on the bench, if none of them is barred; all asked since forget() with or without a GUEST. */
         int lessonsFrom(Bench bench) {
             if (bench.size > SEARCHED) {
                 return NONE;
@@ -1144,11 +1154,14 @@ public final class LeastTeaches {
         }
 
         /**
-         * A LIKELY LESSON in which somebody falls is one where nobody can be RIGHT or say NO, and so it stays:
-         * only what rises can lead there. As somebody rises each time, depth is at most 9 for each PUPIL.
+         * Somebody falls in a LIKELY LESSON only where nobody could be RIGHT or say NO, and then never will:
+         * only what rises leads there. As somebody rises each time, the depth is at most 9 for each PUPIL.
          */
         private int look(Bench bench, int code, int depth) {
-            if (far[code] != UNSEEN || depth > SEARCHED * KNOWN) {
+            if (depth > SEARCHED * KNOWN) {
+                return NONE;
+            }
+            if (far[code] != UNSEEN) {
                 return far[code];
             }
             int best = code == TENS[bench.size] - 1 ? 0 : NONE;
@@ -1165,18 +1178,16 @@ public final class LeastTeaches {
             return best;
         }
 
-        /** Who stands up in LESSON j of THE ROW, where lessonsFrom(bench) is more than j. */
+        /** Who stands up in LESSON j of THE ROW, behind lessonsFrom(bench) that answered more than j. */
         int standsUp(Bench bench, int j) {
             int who = NONE;
             for (int k = 0; k <= j; k++) {
                 int code = bench.code();
-                int next = code;
                 who = NONE;
                 for (int one = 0; one < bench.size && who == NONE; one++) {
                     bench.setLevels(code);
                     bench.hold(one, false);
-                    next = bench.code();
-                    who = next > code && far[next] == far[code] - 1 ? one : NONE;
+                    who = far[bench.code()] == far[code] - 1 ? one : NONE;
                 }
             }
             return who;
