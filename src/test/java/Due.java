@@ -112,14 +112,28 @@ final class Due {
         return (seed * 1103515245L + 12345L) % (1L << 31);
     }
 
-    /** A SEED from which the next DRAWS of 100 are these. */
-    static int seedOf(int... draws) {
+    /** DRAWS of 100 that are just that, below it, or from it on. */
+    static int[] just(int n) {
+        return new int[] {n, n};
+    }
+
+    static int[] below(int n) {
+        return new int[] {0, n - 1};
+    }
+
+    static int[] from(int n) {
+        return new int[] {n, 99};
+    }
+
+    /** A SEED from which the next DRAWS of 100 are among these. */
+    static int seedOf(int[]... draws) {
         for (long seed = 0; seed < 1L << 31; seed++) {
             long s = seed;
             int k = 0;
             for (; k < draws.length; k++) {
                 s = drawFrom(s);
-                if (s / 65536 % 100 != draws[k]) break;
+                long drawn = s / 65536 % 100;
+                if (drawn < draws[k][0] || drawn > draws[k][1]) break;
             }
             if (k == draws.length) return (int) seed;
         }
@@ -127,11 +141,11 @@ final class Due {
     }
 
     /** A DRAWN LESSON of THING 0 in which exactly these are drawn, and its end. */
-    static void drawn(String what, LeastTeaches x, int p, int end, int... draws) {
+    static void drawn(String what, LeastTeaches x, int p, int end, int[]... draws) {
         drawnOf(what, x, p, 0, end, draws);
     }
 
-    static void drawnOf(String what, LeastTeaches x, int p, int t, int end, int... draws) {
+    static void drawnOf(String what, LeastTeaches x, int p, int t, int end, int[]... draws) {
         int seed = seedOf(draws);
         long behind = seed;
         for (int k = 0; k < draws.length; k++) behind = drawFrom(behind);

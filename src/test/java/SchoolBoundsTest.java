@@ -38,6 +38,37 @@ public final class SchoolBoundsTest {
         due("the last SET", x.leans(5), 31);
     }
 
+    private static void clauses() {
+        Due.sentence("clauses: 'thing' ['on' T {',' T}] ';'");
+        good("thing;", 0);
+        good("thing;thing on 0;", 0);
+        good("thing;thing;thing on 1,0;", 0);
+        bad("thing", 1, 5);
+        bad("thing on", 1, 8);
+        bad("thing on;", 1, 8);
+        bad("thing 0;", 1, 6);
+        bad("thing;thing 0;", 1, 12);
+        bad("thing;thing on 0,;", 1, 17);
+        bad("thing;thing;thing on 1 0;", 1, 23);
+        bad("thing;thing on ,0;", 1, 15);
+        bad("on;", 1, 0);
+
+        Due.sentence("'pupil' R B P K {',' K} ';'");
+        good("thing;pupil 1 2 3 4;", 1);
+        good("thing;thing;pupil 1 2 3 4,5;", 1);
+        LeastTeaches x = Due.of("thing;thing;pupil 1 2 3 4,5;pupil 5 4 3 2,1;");
+        int[][] want = {{1, 2, 3, 4, 5}, {5, 4, 3, 2, 1}};
+        for (int p = 0; p < 2; p++) {
+            for (int w = 0; w < 3; w++) due("R, B, P", x.pupil(p, w), want[p][w]);
+            for (int t = 0; t < 2; t++) due("K", x.level(p, t), want[p][3 + t]);
+        }
+        bad("thing;pupil 1,2,3,4;", 1, 13);
+        bad("thing;pupil 1 2 3,4;", 1, 17);
+        bad("thing;pupil 1 2 3 4", 1, 19);
+        bad("thing;thing;pupil 1 2 3 4 5;", 1, 26);
+        bad("pupil;", 1, 5);
+    }
+
     private static void mostThings() {
         Due.sentence("(6 THINGS at most; it LEANS on THINGS told ahead)");
         good(SIX_THINGS, 0);
@@ -327,13 +358,13 @@ public final class SchoolBoundsTest {
             due("not by listening", x.level(0, 1), l);
             x.master(1);
             due("not by a MASTER", x.level(0, 1), l);
-            if (l < 9) Due.drawnOf("not by NO", x, 0, 1, 0, 99, 0);
+            if (l < 9) Due.drawnOf("not by NO", x, 0, 1, 0, Due.just(99), Due.just(0));
             due("not by NO", x.level(0, 1), l);
             x.summer(1);
             due("it falls", x.level(0, 1), l - 1);
         }
         LeastTeaches x = Due.of("thing;thing on 0;pupil 1 0 0 4,7;pupil 1 0 0 4,0;");
-        Due.drawnOf("nor does who says NO", x, 1, 1, 0, 99, 0);
+        Due.drawnOf("nor does who says NO", x, 1, 1, 0, Due.just(99), Due.just(0));
         Due.levels("nor does who says NO", x, 1, 7, 1);
     }
 
@@ -546,6 +577,7 @@ public final class SchoolBoundsTest {
 
     public static void main(String[] args) {
         longestTexts();
+        clauses();
         mostThings();
         boundsOfPupils();
         figures();
