@@ -30,7 +30,6 @@ public final class LeastTeaches {
     private int keptSet;
     private final int[] logged = new int[LOGGED];
     private int logSize;
-    private final int[] orderRow = new int[MOST];
     private final Bench bench = new Bench();
     private final Odds odds = new Odds();
     private final Search alone = new Search();
@@ -324,11 +323,11 @@ public final class LeastTeaches {
         if (told.pupils > SEARCHED) {
             return NOT;
         }
-        int lessons = findOrder();
+        int lessons = lessonsAsTold();
         if (lessons == NONE || j < NONE || j >= told.things) {
             return NONE;
         }
-        return j == NONE ? lessons : orderRow[j];
+        return j == NONE ? lessons : j;
     }
 
     public int classes(int t, int what) {
@@ -485,40 +484,24 @@ public final class LeastTeaches {
     }
 
     /**
-     * Fills orderRow and answers the LESSONS in all. LEVEL 9 is never lost, so what a THING leans on
-     * only says whether it can be finished, never how fast: all orders that can be take equally long,
-     * and what can come next still can later. So the least THING that can be is always the right one.
+     * The LESSONS in all, THING by THING as they were told. That order is always the best: a THING leans only on
+     * those told ahead, so it can be, if any can; and as LEVEL 9 is never lost, what a THING leans on says whether
+     * it can be finished, never how fast: all orders that can be take equally long, and of like ones this is the first.
      */
-    private int findOrder() {
+    private int lessonsAsTold() {
         tried.take(now);
-        int doneSet = 0;
         int lessons = 0;
-        for (int place = 0; place < told.things; place++) {
-            int t = leastOpen(doneSet);
-            int more = t == NONE ? NONE : fewestOfAll(tried, t, now.visited);
+        for (int t = 0; t < told.things; t++) {
+            int more = fewestOfAll(tried, t, now.visited);
             if (more == NONE) {
                 return NONE;
             }
             lessons += more;
-            orderRow[place] = t;
-            doneSet |= 1 << t;
             for (int p = 0; p < told.pupils; p++) {
                 tried.levels[p * MOST + t] = KNOWN;
             }
         }
         return lessons;
-    }
-
-    private int leastOpen(int doneSet) {
-        for (int t = 0; t < told.things; t++) {
-            if ((doneSet >> t & 1) == 0) {
-                bench.sit(told, tried, ALL, t);
-                if (!bench.isBarred()) {
-                    return t;
-                }
-            }
-        }
-        return NONE;
     }
 
     /** What the text tells and no lesson changes; and the LEVELS that it begins with. */

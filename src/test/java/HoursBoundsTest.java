@@ -79,7 +79,17 @@ public final class HoursBoundsTest {
         due("QUICK is quicker than RULE 0: 4, 8, 9", Due.one(1, 0, 0, 9, 4, 0, 0, 0).fewest(0), 3);
         due("one is held", Due.of("thing;thing on 0;pupil 1 0 0 9,8;pupil 1 0 0 4,8;").fewest(1), NONE);
         due("who is held KNOWS", Due.of("thing;thing on 0;pupil 1 0 0 9,8;pupil 1 0 0 4,9;").fewest(1), 1);
-        LeastTeaches x = Due.at(8, 4);
+        LeastTeaches x = Due.of("thing;thing on 0;pupil 1 0 0 4,4;pupil 1 0 0 9,9;");
+        due("held at (4, 9)", x.fewest(1), NONE);
+        due("not held at (4, 9)", x.fewest(0), 5);
+        due("held at (4, 9)", x.fewest(1), NONE);
+        x.lesson(1, 0, false);
+        due("held no more", x.fewest(1), 5);
+        x = Due.of("thing;thing on 0;pupil 1 0 0 9,9;pupil 1 0 0 4,4;");
+        due("held at (9, 4), with the GUEST", visited(x).worth(1), 0);
+        due("not held at (9, 4), with the GUEST", x.fewest(0), 5);
+        due("not held at (9, 4), without", x.worth(0), 0);
+        x = Due.at(8, 4);
         due("8 and 4", x.fewest(0), 5);
         x.summer(4);
         due("4 and 0", x.fewest(0), NONE);
@@ -197,6 +207,9 @@ public final class HoursBoundsTest {
         LeastTeaches x = Due.one(5, 100, 100, 0, 5, 100, 100, 7, 5, 100, 100, 6, 5, 100, 100, 7, 5, 100, 100, 1);
         due("whose LEVEL is less", x.master(0), 3);
         Due.levels("by 1, whatever QUICK is", x, 0, 1, 7, 7, 7, 2);
+        x = Due.at(9, 0, 8, 9, 1, 2);
+        due("six", x.master(0), 4);
+        Due.levels("six", x, 0, 9, 1, 9, 9, 2, 3);
         for (int l = 0; l <= 9; l++) {
             for (int m = 0; m <= 9; m++) {
                 x = Due.at(l, m);
@@ -233,7 +246,12 @@ public final class HoursBoundsTest {
             x = Due.at(7, 8);
             due("8 is RIGHT for 7, too", x.pays(1, 0, s, 1), s >= 2 ? 1 : 0);
         }
-        LeastTeaches x = Due.one(1, 100, 0, 2, 1, 100, 0, 4);
+        LeastTeaches x = Due.one(5, 0, 0, 4, 5, 0, 0, 4, 1, 0, 0, 9);
+        due("0 of two alike stands up anyway", x.pays(0, 0, 0, 1), 0);
+        due("0 of two alike stands up anyway", x.pays(0, 0, 1, 1), 0);
+        due("1 does not", x.pays(1, 0, 0, 1), 0);
+        due("1 does, if it seems less", x.pays(1, 0, 1, 1), 5);
+        x = Due.one(1, 100, 0, 2, 1, 100, 0, 4);
         due("one LESSON: it does not fall", x.pays(1, 0, 9, 1), 1);
         due("two: not twice", x.pays(1, 0, 9, 2), 2);
         due("three: nor from 2 to 1", x.pays(1, 0, 9, 3), 3);
@@ -288,6 +306,11 @@ public final class HoursBoundsTest {
         due("no GUEST", x.classes(0, 0), 3);
         due("the longer one: 9 with 4", x.classes(0, 1), 5);
         due("it is tried", x.level(0, 0), 4);
+        x = Due.of("thing;thing on 0;pupil 1 0 0 4,4;pupil 1 0 0 9,9;pupil 1 0 0 9,9;");
+        due("0 is held", x.classes(1, 0), NONE);
+        due("0 is not", x.classes(0, 0), 3);
+        due("0 is held", x.classes(1, 1), NONE);
+        due("0 is not", x.classes(0, 1), 5);
         Random random = new Random(4);
         for (int k = 0; k < 80; k++) {
             int[] told = new int[4 * (1 + k % 5)];

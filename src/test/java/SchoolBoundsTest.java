@@ -142,6 +142,9 @@ public final class SchoolBoundsTest {
         bad("athing;", 1, 0);
         bad("thin;", 1, 0);
         bad("hing;", 1, 0);
+        bad("shing;", 1, 0);
+        bad("hupil 1 0 0;", 1, 0);
+        bad("thing;thing an 0;", 1, 12);
         bad("Thing;", 1, 0);
         bad("thinG;", 1, 0);
         bad("thing;thing o 0;", 1, 12);
@@ -446,6 +449,15 @@ public final class SchoolBoundsTest {
         due("THE SEED stays", x.seed(3), 1043980748);
         due("THINGS", x.count(1), 1);
         due("FEWEST is the new school's", x.fewest(0), 1);
+        int[] fewest = {9, 6, 5, 3, 5};
+        for (int quick = 1; quick <= 5; quick++) {
+            Due.feed(x, "thing;pupil " + quick + " 0 0 0;pupil 1 0 0 9;");
+            x.school();
+            due("FEWEST from the same LEVELS by QUICK " + quick, x.fewest(0), fewest[quick - 1]);
+            Due.feed(x, "thing;pupil " + quick + " 0 0 0;");
+            x.school();
+            due("WORTH at the same LEVEL by QUICK " + quick, x.worth(0), 300 - fewest[quick - 1]);
+        }
         String[] faulty = {"thin;", "pupil 9", "thing;thing on 0,0;", SIX_THINGS + "thing;"};
         for (int f = 1; f <= 4; f++) {
             x = busy();
@@ -466,6 +478,58 @@ public final class SchoolBoundsTest {
             due("IMAGE 1", x.goBack(1), 1);
             due("a school behind a FAULT", x.school(), 0);
         }
+    }
+
+    /** All that a school answers hangs on its own text alone, whatever was told ahead of it. */
+    private static void schoolsAnew() {
+        Due.sentence("THE TEXT (it is empty then, with a FAULT, too) becomes THE SCHOOL (no GUEST, THE LOG is empty, IMAGES are gone, "
+            + "PUPIL 0's turn; THE SEED stays): how many PUPILS; -10 less the number of its FAULT (all else is as it was).");
+        String large = "thing;thing;thing;thing;thing;thing;" + "pupil 3 100 100 7,8,7,8,7,8;".repeat(6);
+        String[] small = {"", "thing;", "pupil 2 0 0;", "thing;pupil 1 0 0 4;", "thing;thing on 0;pupil 2 50 0 4,0;pupil 1 50 50 9,5;",
+            "thing;pupil 4 50 0 0;pupil 1 50 50 9;pupil 5 0 0 4;", "thing;pupil 1 0 0 8;pupil 2 0 0 9;",
+            "thing;pupil 1 0 0 3;pupil 1 50 0 2;pupil 1 50 50 9;pupil 1 0 0 4;",
+            "thing;pupil 5 0 0 3;pupil 4 50 0 2;pupil 3 50 50 9;pupil 2 0 0 4;pupil 1 0 0 5;"};
+        for (String ahead : new String[] {large, "thing;thing;thing;pupil 1 2 3 4,4,4;pupil 1 2 3 6,6,6", "thing;pupil 5 9 9 9;pupil 9"}) {
+            LeastTeaches x = new LeastTeaches();
+            for (String text : small) {
+                Due.feed(x, ahead);
+                if (x.school() >= 0) answers(x);
+                Due.feed(x, text);
+                x.school();
+                x.seed(0);
+                due("'" + text + "' behind '" + ahead + "'", answers(x), answers(Due.of(text)));
+            }
+        }
+    }
+
+    /** What many calls answer, in one number. */
+    private static long answers(LeastTeaches x) {
+        long all = 0;
+        for (int w = 0; w < 6; w++) all = all * 31 + x.count(w);
+        for (int t = 0; t < 6; t++) {
+            all = all * 31 + x.leans(t);
+            all = all * 31 + x.fewest(t);
+            all = all * 31 + x.row(t, 0);
+            all = all * 31 + x.worth(t);
+            all = all * 31 + x.mastered(t);
+            for (int rule = 0; rule < 3; rule++) {
+                all = all * 31 + x.up(rule, t);
+                all = all * 31 + x.hours(rule, t);
+                for (int w = 0; w < 5; w++) all = all * 31 + x.behind(rule, t, 3, w);
+            }
+            all = all * 31 + x.classes(t, 0);
+            all = all * 31 + x.classes(t, 1);
+            for (int p = 0; p < 6; p++) {
+                all = all * 31 + x.level(p, t);
+                for (int w = 0; w < 4; w++) all = all * 31 + x.exact(p, t, w);
+                all = all * 31 + x.pays(p, t, 3, 2);
+            }
+            all = all * 31 + x.run(1, t, 2, true);
+            all = all * 31 + x.master(t);
+        }
+        all = all * 31 + x.order(NONE);
+        for (int p = 0; p < 6; p++) all = all * 31 + x.pupil(p, 4);
+        return all * 31 + x.summer(1);
     }
 
     /** A school in which nothing is as it is at first. */
@@ -596,6 +660,7 @@ public final class SchoolBoundsTest {
         newObject();
         feeding();
         schools();
+        schoolsAnew();
         faults();
         asked();
         askedOfThings();
