@@ -489,7 +489,8 @@ public final class SchoolBoundsTest {
             "thing;pupil 4 50 0 0;pupil 1 50 50 9;pupil 5 0 0 4;", "thing;pupil 1 0 0 8;pupil 2 0 0 9;",
             "thing;pupil 1 0 0 3;pupil 1 50 0 2;pupil 1 50 50 9;pupil 1 0 0 4;",
             "thing;pupil 5 0 0 3;pupil 4 50 0 2;pupil 3 50 50 9;pupil 2 0 0 4;pupil 1 0 0 5;"};
-        for (String ahead : new String[] {large, "thing;thing;thing;pupil 1 2 3 4,4,4;pupil 1 2 3 6,6,6", "thing;pupil 5 9 9 9;pupil 9"}) {
+        String low = large.replace("7,8", "6,1");
+        for (String ahead : new String[] {large, low, "thing;thing;thing;pupil 1 2 3 4,4,4;pupil 1 2 3 6,6,6", "thing;pupil 5 9 9 9;pupil 9"}) {
             LeastTeaches x = new LeastTeaches();
             for (String text : small) {
                 Due.feed(x, ahead);
