@@ -34,7 +34,6 @@ public final class LeastTeaches {
     private final Odds odds = new Odds();
     private final Search alone = new Search();
     private final Search withGuest = new Search();
-    private final Search parted = new Search();
 
     public LeastTeaches() {
     }
@@ -67,7 +66,6 @@ public final class LeastTeaches {
         logSize = 0;
         alone.forget();
         withGuest.forget();
-        parted.forget();
         return told.pupils;
     }
 
@@ -472,7 +470,7 @@ public final class LeastTeaches {
     private int fewestOfPart(int set, int t) {
         bench.sit(told, now, set, t);
         bench.visited = false;
-        return bench.isBarred() ? NONE : parted.lessonsFrom(bench);
+        return bench.isBarred() ? NONE : alone.lessonsFrom(bench);
     }
 
     private int levelBehind(int p, int t, int less, int n) {
@@ -1113,8 +1111,9 @@ public final class LeastTeaches {
     }
 
     /**
-     * FEWEST by the code of LEVELS, kept once found. While nobody is barred it hangs on these, on the PUPILS
-     * and on the GUEST alone: so one Search serves all THINGS, and is asked either always or never with a GUEST.
+     * FEWEST by the code of LEVELS, kept once found, till others sit there. While nobody is barred it hangs on these,
+     * on the PUPILS and on the GUEST alone: so one Search serves all THINGS, and is asked either always or never
+     * with a GUEST.
      */
     private static final class Search {
         private static final int UNSEEN = -2;

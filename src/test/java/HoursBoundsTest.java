@@ -40,6 +40,10 @@ public final class HoursBoundsTest {
         x.run(1, 1, 1, false);
         due("from the turn of 1: 5, 6, 7, 8, 9", x.hours(1, 0), 5);
         due("no turn has gone on", x.count(5), 1);
+        x = Due.one(1, 0, 0, 9, 1, 0, 0, 9, 5, 0, 0, 2);
+        due("0, 1, then 2: 3, 4, 9", x.hours(1, 0), 3);
+        x = Due.one(2, 0, 0, 0, 1, 0, 0, 9, 1, 0, 0, 9);
+        due("0, 1, 2, then 0 again: 2, 3, 4, 6, 7, 8, 9", x.hours(1, 0), 7);
         x = Due.one(1, 0, 0, 4, 5, 0, 0, 4, 1, 0, 0, 9);
         due("0 is told NO: 5, 4; 1 is, and 0 says it, too: 6, 9; 7; 8; 9", x.hours(1, 0), 5);
         x.run(1, 0, 1, false);
@@ -272,6 +276,8 @@ public final class HoursBoundsTest {
         order("six on one another", "thing;thing on 0;thing on 1;thing on 2;thing on 3;thing on 4;pupil 2 0 0 0,0,0,0,0,0;pupil 1 0 0 9,9,9,9,9,9;",
             6 * 6, 0, 1, 2, 3, 4, 5);
         order("held till 0 is KNOWN", "thing;thing on 0;pupil 1 0 0 4,8;pupil 1 0 0 9,9;", 5 + 1, 0, 1);
+        order("each of four is held till then", "thing;thing on 0;pupil 1 0 0 4,8;pupil 1 0 0 4,8;pupil 1 0 0 9,9;pupil 1 0 0 4,8;", 5 + 1, 0, 1);
+        order("the last of four is", "thing;thing on 0;pupil 1 0 0 9,9;pupil 1 0 0 9,9;pupil 1 0 0 9,9;pupil 1 0 0 4,8;", 5 + 1, 0, 1);
         order("held at 4 by 0, which never comes", "thing;thing on 0;pupil 1 0 0 4,8;", NONE);
         order("one of three never comes", "thing;thing;thing;pupil 1 0 0 9,4,9;", NONE);
         order("1 is KNOWN, 0 never comes", "thing;thing on 0;pupil 1 0 0 4,9;", NONE);

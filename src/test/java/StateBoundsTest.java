@@ -239,6 +239,9 @@ public final class StateBoundsTest {
         for (int k = 0; k < 39; k++) x.log(5, 0);
         x.log(0, 0);
         due("9 from the second on", x.judge(), NONE);
+        x = Due.at(9, 9, 9, 9, 9, 8);
+        x.log(0, 0);
+        due("the last of six has the least", x.judge(), 0);
         x = Due.of("thing;thing;pupil 1 0 0 9,9;pupil 1 0 0 9,8;");
         for (int k = 0; k < 39; k++) x.log(0, 0);
         x.log(0, 1);
