@@ -1,5 +1,6 @@
 import java.io.IOException;
 import java.lang.management.ManagementFactory;
+import java.lang.reflect.Array;
 import java.lang.reflect.Constructor;
 import java.lang.reflect.Field;
 import java.lang.reflect.Method;
@@ -7,6 +8,8 @@ import java.lang.reflect.Modifier;
 import java.nio.file.Files;
 import java.nio.file.Path;
 import java.util.Arrays;
+import java.util.Collections;
+import java.util.IdentityHashMap;
 import java.util.List;
 import java.util.Set;
 import java.util.TreeSet;
@@ -114,6 +117,32 @@ public final class LanguageTest {
         check("no objects are made by calls: " + made + " bytes", made < 4000);
     }
 
+    /** Fields and elements of an object and of all that it holds. */
+    private static long held(Object o, Set<Object> seen) throws IllegalAccessException {
+        if (o == null || !seen.add(o)) return 0;
+        if (o.getClass().isArray()) {
+            check("arrays hold numbers alone: " + o.getClass(), o.getClass().getComponentType().isPrimitive());
+            return Array.getLength(o);
+        }
+        long sum = 0;
+        for (Field f : o.getClass().getDeclaredFields()) {
+            if (Modifier.isStatic(f.getModifiers())) continue;
+            f.setAccessible(true);
+            sum += 1 + (f.getType().isPrimitive() ? 0 : held(f.get(o), seen));
+        }
+        return sum;
+    }
+
+    /** A room of 7.3 million: a few hundred objects must find place in it. */
+    private static void share() throws IllegalAccessException {
+        LeastTeaches x = new LeastTeaches();
+        everyCall(x);
+        Set<Object> seen = Collections.newSetFromMap(new IdentityHashMap<>());
+        long held = held(x, seen);
+        check("an object holds little: " + held + " fields and elements", held > 1000 && held < 24000);
+        check("an object is few objects: " + seen.size(), seen.size() < 60);
+    }
+
     private static void everyCall(LeastTeaches x) {
         long[] text = {0x7468696e673b7075L, 0x70696c2033203430L, 0x203520323b707570L, 0x696c203120302030L, 0x20363b2020202020L};
         for (int i = 0; i < text.length; i++) x.feed(8, text[i]);
@@ -123,11 +152,12 @@ public final class LanguageTest {
         x.order(-1); x.classes(0, 0); x.log(1, 0); x.judge(); x.clear(); x.seed(5); x.keep(1); x.goBack(1);
     }
 
-    public static void main(String[] args) throws IOException {
+    public static void main(String[] args) throws IOException, IllegalAccessException {
         face();
         statics();
         words();
         room();
+        share();
         System.out.println("LanguageTest: " + checks + " checks, " + wrong + " wrong");
         if (wrong != 0) System.exit(1);
     }
